@@ -1,0 +1,45 @@
+import java.util.Objects;
+
+/** What the tests share: counts the answers that are not due, and ends with exit code 1 if there was one. */
+final class Check {
+    private int asked;
+    private int wrong;
+
+    void due(String call, Object got, Object want) {
+        asked++;
+        if (!Objects.equals(got, want)) {
+            wrong++;
+            System.out.println(call + " answered " + got + ", due is " + want);
+        }
+    }
+
+    void index(String call, Runnable run) {
+        refused(call, IndexOutOfBoundsException.class, run);
+    }
+
+    void argument(String call, Runnable run) {
+        refused(call, IllegalArgumentException.class, run);
+    }
+
+    void state(String call, Runnable run) {
+        refused(call, IllegalStateException.class, run);
+    }
+
+    /** The exception is just of that class: one that the machine throws is another one, or has no written text. */
+    private void refused(String call, Class<?> want, Runnable run) {
+        Object got = "nothing";
+        try {
+            run.run();
+        } catch (RuntimeException e) {
+            got = e.getClass();
+        }
+        due(call + " throws", got, want);
+    }
+
+    void end() {
+        System.out.println("  " + asked + " answers, " + wrong + " of them not due");
+        if (wrong > 0 || asked == 0) {
+            System.exit(1);
+        }
+    }
+}
