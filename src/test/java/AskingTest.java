@@ -185,6 +185,20 @@ public final class AskingTest {
             box.play(place);
             check.due("when, at " + place, box.when(0), due[place - 1]);
         }
+        for (int governor = 1; governor <= 8; governor++) {
+            for (int place = 1; place <= 40; place++) {
+                PinBarrel box = Boxes.pinned(place);
+                box.govern(governor);
+                box.wind(300);
+                double clock = 0.0;
+                for (int step = 0; step < place; step++) {
+                    clock += 0.125 / (0.125 * governor + (300 - 2 * step) / 1024.0);
+                }
+                box.play(place);
+                check.due("when, not between two", box.when(0), Math.rint(8.0 * clock) / 8.0);
+                check.due("whole clock", box.many(14), (int) clock);
+            }
+        }
     }
 
     private static void speed() {

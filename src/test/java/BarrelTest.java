@@ -11,6 +11,7 @@ public final class BarrelTest {
         pinBroken();
         pinRefused();
         pull();
+        lastTooth();
         shift();
         check.end();
     }
@@ -146,9 +147,35 @@ public final class BarrelTest {
         check.due("pulled pins are not gone by wear", box.many(12), 0);
         box.pin(tune, 0, 0);
         check.due("a new pin has no wear", box.wear(0, 0, 10), 0);
+        check.due("one without wear is pulled out, too", box.pull(0, false), 4);
+        box.pin(tune, 0, 0);
         check.index("pull(-1, ..)", () -> box.pull(-1, false));
         check.index("pull(3, ..)", () -> box.pull(3, false));
         check.due("pins after refusals", box.many(3), 8);
+    }
+
+    /** The last LINE of the last TOOTH, with PINS at its first PLACE and its last one. */
+    private static void lastTooth() {
+        PinBarrel box = new PinBarrel();
+        for (int i = 0; i < 24; i++) {
+            box.tooth(i);
+        }
+        int tune = Boxes.tune(box, 0, 23, 59, 23);
+        check.due("none lost", box.pin(tune, 2, 0), 0);
+        box.shift(2);
+        Boxes.wound(box, 2000);
+        check.due("none worn", box.pull(2, true), 0);
+        check.due("lasts", box.lasts(), (2000 - 10 + 1) / 2);
+        check.due("none broken", box.many(1), 0);
+        check.due("pins", box.many(3), 2);
+        box.play(128);
+        box.play(64);
+        check.due("wear of the last tooth", box.wear(23, 2, 0), 3);
+        check.due("wear of the last tooth", box.wear(23, 2, 59), 3);
+        check.due("mended", box.mend(), 2);
+        check.due("no wear now", box.wear(23, 2, 0), 0);
+        check.due("the row", box.row(0), ".".repeat(23) + "|");
+        check.due("all pulled", box.pull(2, false), 2);
     }
 
     private static void shift() {

@@ -112,5 +112,23 @@ public final class CombTest {
         check.due("struck out of a full one", box.note(0, 63, 10), 29);
         check.due("room again", box.note(0, 0, 10), 30);
         check.due("times", box.ofTune(0, 3), 30);
+        lastTuneFull();
+    }
+
+    private static void lastTuneFull() {
+        PinBarrel box = new PinBarrel();
+        for (int tune = 0; tune < 4; tune++) {
+            box.tune();
+            for (int i = 0; i < 30; i++) {
+                check.due("note", box.note(tune, 2 * i, 10 + tune), i + 1);
+            }
+        }
+        check.due("like itself", box.likeness(3, 3, 0), 1.0);
+        check.due("one higher", box.likeness(3, 2, -1), 1.0);
+        check.due("struck out of the last tune", box.note(3, 58, 13), 29);
+        check.due("struck out of the last tune", box.note(3, 0, 13), 28);
+        check.due("the tune ahead stays", box.ofTune(2, 2), 12);
+        check.due("the struck ones do not count", box.likeness(3, 2, -1), 28.0 / 30.0);
+        check.due("the struck ones do not count", box.likeness(2, 3, 1), 28.0 / 30.0);
     }
 }

@@ -1,10 +1,12 @@
 import java.util.Random;
 import java.util.function.Supplier;
 
-/** Runs of 512 calls, each answer compared with that of the Model: the same seeds, so the same runs each time. */
+/** Runs of some 500 calls, each answer compared with that of the Model: the same seeds, so the same runs each time. */
 public final class ModelTest {
-    private static final int RUNS = 160;
+    private static final int RUNS = 400;
+    /** What a box answers behind its 512th call is free. */
     private static final int CALLS = 512;
+    private static final int MOST_CALLS_AT_ONCE = 8;
     private static final Check check = new Check();
 
     /** How often all runs came to what many() of 0 to 14 tells, at their ends. */
@@ -17,6 +19,7 @@ public final class ModelTest {
     private final int base;
     private final PinBarrel box = new PinBarrel();
     private final Model model = new Model();
+    private int calls;
 
     private ModelTest(int run) {
         this.run = run;
@@ -40,20 +43,21 @@ public final class ModelTest {
         for (int i = 0; i < ready; i++) {
             setUp();
         }
-        for (int i = ready; i < CALLS; i++) {
+        while (calls < CALLS - MOST_CALLS_AT_ONCE) {
             call();
-            if (i % 16 == 0) {
+            if (random.nextInt(12) == 0) {
                 same("digest()", box::digest, model::digest);
             }
         }
         same("digest()", box::digest, model::digest);
         for (int what = 0; what < reached.length; what++) {
-            reached[what] += box.many(what);
+            reached[what] += model.many(what);
         }
     }
 
     private void same(String call, Supplier<Object> asked, Supplier<Object> due) {
-        check.due("run " + run + ": " + call, answer(asked), answer(due));
+        calls++;
+        check.due("run " + run + ", call " + calls + ": " + call, answer(asked), answer(due));
     }
 
     private static Object answer(Supplier<Object> asked) {
@@ -84,11 +88,11 @@ public final class ModelTest {
     }
 
     private int aTune() {
-        return within(0, Math.max(0, box.many(2) - 1));
+        return within(0, Math.max(0, model.many(2) - 1));
     }
 
     private int aTooth() {
-        return within(0, Math.max(0, box.many(0) - 1));
+        return within(0, Math.max(0, model.many(0) - 1));
     }
 
     private int aKey() {
@@ -178,7 +182,7 @@ public final class ModelTest {
     }
 
     private void askBox() {
-        int sound = within(0, Math.max(0, box.many(10) - 1));
+        int sound = within(0, Math.max(0, model.many(10) - 1));
         int what = within(0, 14);
         int steps = within(1, 128);
         same("heard(" + sound + ")", () -> box.heard(sound), () -> model.heard(sound));

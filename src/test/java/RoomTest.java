@@ -1,6 +1,6 @@
 import java.lang.management.ManagementFactory;
 
-/** All calls of one run live in one room: neither a box nor 512 of any call may make much. */
+/** All calls of one run live in one room: neither a full box nor 360 calls behind it may make much. */
 public final class RoomTest {
     /** A room of 7.3 million fields and elements, of which a run is to take a small part, at 8 bytes each. */
     private static final long MOST_BYTES = 7_300_000L * 8 / 20;
@@ -11,18 +11,19 @@ public final class RoomTest {
         PinBarrel box = fullBox();
         check.due("a full box is small", made() - before < MOST_BYTES, true);
         before = made();
-        for (int i = 0; i < 512; i++) {
+        for (int i = 0; i < 60; i++) {
             box.digest();
             box.bestKey(i % 4, i % 3);
-            box.play(1 + i % 128);
+            box.play(1 + i * 2);
             box.wind(500);
             box.pin(i % 4, i % 3, 0);
             box.mend();
         }
-        check.due("the calls make next to nothing", made() - before < MOST_BYTES / 10, true);
+        check.due("the calls make next to nothing", made() - before < MOST_BYTES / 100, true);
+        PinBarrel rows = fullBox();
         before = made();
-        for (int i = 0; i < 512; i++) {
-            box.row(i % 64);
+        for (int i = 0; i < 360; i++) {
+            rows.row(i % 64);
         }
         check.due("rows are small", made() - before < MOST_BYTES, true);
         check.end();

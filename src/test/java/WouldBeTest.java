@@ -10,6 +10,7 @@ public final class WouldBeTest {
         lasts();
         lastsWithWear();
         wouldBuzz();
+        wouldBuzzLater();
         wouldBuzzRefused();
         digest();
         check.end();
@@ -132,6 +133,23 @@ public final class WouldBeTest {
         check.due("each as often as it does", two.wouldBuzz(5), 2);
     }
 
+    /** What was plucked ahead of the question counts, and only the LINES under the TEETH do. */
+    private static void wouldBuzzLater() {
+        PinBarrel box = Boxes.wound(Boxes.pinned(20, 24), 500);
+        box.play(20);
+        check.due("plucked 4 steps ago by then", box.wouldBuzz(4), 1);
+        PinBarrel shifted = Boxes.withTeeth(20);
+        int tune = Boxes.tune(shifted, 20, 20, 24, 20);
+        shifted.pin(tune, 2, 0);
+        shifted.wind(500);
+        check.due("not under the teeth", shifted.wouldBuzz(64), 0);
+        shifted.shift(2);
+        check.due("under the teeth", shifted.wouldBuzz(64), 1);
+        check.due("lasts", shifted.lasts(), (500 - 8 + 1) / 2);
+        shifted.shift(0);
+        check.due("back again", shifted.wouldBuzz(64), 0);
+    }
+
     private static void wouldBuzzRefused() {
         PinBarrel box = new PinBarrel();
         check.argument("wouldBuzz(0)", () -> box.wouldBuzz(0));
@@ -159,6 +177,35 @@ public final class WouldBeTest {
         sounds = sounds * 31 + (long) (clock * 8.0);
         check.due("with a sound", box.digest(), told(box, sounds));
         check.due("nothing is changed", box.digest(), told(box, sounds));
+        digestOfBuzzes();
+        digestOfLateSound();
+    }
+
+    private static void digestOfBuzzes() {
+        PinBarrel box = Boxes.pinned(8, 12, 16);
+        box.wind(500);
+        check.due("in 15", box.wouldBuzz(15), 1);
+        check.due("in 16", box.wouldBuzz(16), 2);
+        check.due("with buzzes", box.digest(), told(box, 0));
+        PinBarrel next = Boxes.pinned(13, 17);
+        next.wind(500);
+        check.due("in 17", next.wouldBuzz(17), 1);
+        check.due("not with that of the 17th step", next.digest(), told(next, 0));
+    }
+
+    /** Its CLOCK is taken as it was, not as when() rounds it. */
+    private static void digestOfLateSound() {
+        for (int place = 40; place < 64; place++) {
+            PinBarrel box = Boxes.pinned(place);
+            box.govern(1);
+            box.wind(400);
+            double clock = 0.0;
+            for (int step = 0; step < place; step++) {
+                clock += 0.125 / (0.125 + (400 - 2 * step) / 1024.0);
+            }
+            box.play(place);
+            check.due("with a late sound", box.digest(), told(box, 20 * 31 + (long) (clock * 8.0)));
+        }
     }
 
     /** The checksum as the document tells it, with what is told of at most one SOUND. */
