@@ -160,7 +160,7 @@ public final class BarrelTest {
         for (int i = 0; i < 24; i++) {
             box.tooth(i);
         }
-        int tune = Boxes.tune(box, 0, 23, 59, 23);
+        int tune = Boxes.tune(box, 0, 23, 51, 23);
         check.due("none lost", box.pin(tune, 2, 0), 0);
         box.shift(2);
         Boxes.wound(box, 2000);
@@ -171,7 +171,7 @@ public final class BarrelTest {
         box.play(128);
         box.play(64);
         check.due("wear of the last tooth", box.wear(23, 2, 0), 3);
-        check.due("wear of the last tooth", box.wear(23, 2, 59), 3);
+        check.due("wear of the last tooth", box.wear(23, 2, 51), 3);
         check.due("mended", box.mend(), 2);
         check.due("no wear now", box.wear(23, 2, 0), 0);
         check.due("the row", box.row(0), ".".repeat(23) + "|");

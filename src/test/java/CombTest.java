@@ -124,11 +124,11 @@ public final class CombTest {
             }
         }
         check.due("like itself", box.likeness(3, 3, 0), 1.0);
-        check.due("one higher", box.likeness(3, 2, -1), 1.0);
+        check.due("one lower, told one higher", box.likeness(3, 2, 1), 1.0);
         check.due("struck out of the last tune", box.note(3, 58, 13), 29);
         check.due("struck out of the last tune", box.note(3, 0, 13), 28);
         check.due("the tune ahead stays", box.ofTune(2, 2), 12);
-        check.due("the struck ones do not count", box.likeness(3, 2, -1), 28.0 / 30.0);
-        check.due("the struck ones do not count", box.likeness(2, 3, 1), 28.0 / 30.0);
+        check.due("the struck ones do not count", box.likeness(3, 2, 1), 28.0 / 30.0);
+        check.due("the struck ones do not count", box.likeness(2, 3, -1), 28.0 / 30.0);
     }
 }
