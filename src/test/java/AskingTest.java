@@ -77,28 +77,20 @@ public final class AskingTest {
         PinBarrel box = new PinBarrel();
         check.index("no tune", () -> box.ofTune(0, 0));
         box.tune();
-        check.due("no notes", tuneText(box, 0), "0 -1 -1 0 0");
+        check.due("no notes", Boxes.ofTune(box, 0), "0 -1 -1 0 0");
         int tune = Boxes.tune(box, 5, 20, 5, 0, 9, 47, 5, 31, 9, 20, 63, 1);
-        check.due("notes", tuneText(box, tune), "6 0 47 3 3");
+        check.due("notes", Boxes.ofTune(box, tune), "6 0 47 3 3");
         box.note(tune, 5, 0);
-        check.due("one less", tuneText(box, tune), "5 1 47 3 2");
+        check.due("one less", Boxes.ofTune(box, tune), "5 1 47 3 2");
         box.note(tune, 9, 47);
         box.note(tune, 9, 20);
-        check.due("three less", tuneText(box, tune), "3 1 31 2 2");
+        check.due("three less", Boxes.ofTune(box, tune), "3 1 31 2 2");
         int zero = Boxes.tune(box, 0, 0);
-        check.due("the lowest of all", tuneText(box, zero), "1 0 0 1 1");
+        check.due("the lowest of all", Boxes.ofTune(box, zero), "1 0 0 1 1");
         check.index("tune -1", () -> box.ofTune(-1, 0));
         check.index("tune 3, wrong question too", () -> box.ofTune(3, 5));
         check.argument("what -1", () -> box.ofTune(0, -1));
         check.argument("what 5", () -> box.ofTune(0, 5));
-    }
-
-    private static String tuneText(PinBarrel box, int tune) {
-        StringBuilder text = new StringBuilder();
-        for (int what = 0; what < 5; what++) {
-            text.append(box.ofTune(tune, what)).append(' ');
-        }
-        return text.toString().trim();
     }
 
     private static void likeness() {

@@ -4,12 +4,22 @@ import java.util.Objects;
 final class Check {
     private int asked;
     private int wrong;
+    /** What the answers at hand stand for; told along with one that is not due. */
+    private String about = "";
+
+    void about(String what) {
+        about = what.isEmpty() ? "" : what + ": ";
+    }
+
+    int asked() {
+        return asked;
+    }
 
     void due(String call, Object got, Object want) {
         asked++;
         if (!Objects.equals(got, want)) {
             wrong++;
-            System.out.println(call + " answered " + got + ", due is " + want);
+            System.out.println(about + call + " answered " + got + ", due is " + want);
         }
     }
 
