@@ -195,6 +195,7 @@ final class AskingEdges {
             check.due("of one note", Boxes.ofTune(box, one), "1 30 30 1 1");
             int all = Boxes.tune(box, 0, 47, 63, 0, 5, 20);
             check.due("0 and 47", Boxes.ofTune(box, all), "3 0 47 3 1");
+            check.due("0 first", Boxes.ofTune(box, Boxes.tune(box, 0, 0, 5, 20)), "2 0 20 2 1");
             box.note(all, 0, 47);
             check.due("the highest one struck out", box.ofTune(all, 2), 20);
             box.note(all, 63, 0);
@@ -425,7 +426,7 @@ final class AskingEdges {
             check.due("mended", box.many(11), 4);
         });
         edges.edge(MANY, "12 PINS that are gone ever by WEAR,", () -> {
-            PinBarrel box = Boxes.worn();
+            PinBarrel box = Boxes.worn(10);
             box.play(64);
             check.due("one", box.many(12), 1);
             box.pull(0, false);

@@ -246,12 +246,14 @@ final class BarrelEdges {
 
     private void pull() {
         edges.edge(PULL, "whether only those with a WEAR of 3 or more", () -> {
-            PinBarrel box = Boxes.worn();
-            check.due("wears", Boxes.wears(box), "4 3 2");
-            check.due("those with 4 and 3", box.pull(0, true), 2);
-            check.due("wears", Boxes.wears(box), "-1 -1 2");
-            check.due("all", box.pull(0, false), 1);
-            check.due("wears", Boxes.wears(box), "-1 -1 -1");
+            for (int place : new int[] {0, 10, 63}) {
+                PinBarrel box = Boxes.worn(place);
+                check.due("wears", Boxes.wears(box, place), "4 3 2");
+                check.due("those with 4 and 3", box.pull(0, true), 2);
+                check.due("wears", Boxes.wears(box, place), "-1 -1 2");
+                check.due("all", box.pull(0, false), 1);
+                check.due("wears", Boxes.wears(box, place), "-1 -1 -1");
+            }
         });
         edges.edge(PULL, "Returns how many are pulled out.", () -> {
             PinBarrel box = Boxes.pinned(0, 16, 32, 60);

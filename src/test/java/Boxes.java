@@ -58,10 +58,10 @@ final class Boxes {
         return box;
     }
 
-    /** A box with three TEETH, each with a PIN at the PLACE 10 of its LINE 0, of WEAR 4, 3 and 2. */
-    static PinBarrel worn() {
+    /** A box with three TEETH, each with a PIN at that PLACE of its LINE 0, of WEAR 4, 3 and 2. */
+    static PinBarrel worn(int place) {
         PinBarrel box = wound(withTeeth(20, 21, 22), 2000);
-        int tune = tune(box, 10, 20);
+        int tune = tune(box, place, 20);
         for (int higher = 0; higher < 3; higher++) {
             box.pin(tune, 0, higher);
             box.play(64);
@@ -70,11 +70,11 @@ final class Boxes {
         return box;
     }
 
-    /** WEAR of each TOOTH at the PLACE 10 of its LINE 0. */
-    static String wears(PinBarrel box) {
+    /** WEAR of each TOOTH at that PLACE of its LINE 0. */
+    static String wears(PinBarrel box, int place) {
         StringBuilder text = new StringBuilder();
         for (int tooth = 0; tooth < box.many(0); tooth++) {
-            text.append(box.wear(tooth, 0, 10)).append(' ');
+            text.append(box.wear(tooth, 0, place)).append(' ');
         }
         return text.toString().trim();
     }

@@ -83,16 +83,18 @@ final class CombEdges {
             check.due("the first", box.note(0, 5, 47), 1);
             check.due("another pitch", box.note(0, 5, 46), 2);
             check.due("another time", box.note(0, 6, 47), 3);
-            check.due("both other", box.note(0, 6, 0), 4);
-            check.due("alike", box.note(0, 5, 47), 3);
+            check.due("another time, ahead", box.note(0, 4, 46), 4);
+            check.due("both other", box.note(0, 6, 0), 5);
+            check.due("alike", box.note(0, 5, 47), 4);
         });
         edges.edge(TERMS, "NOTES are in the order of TIME, and of PITCH with the same TIME.", () -> {
+            // The order of PITCH shows nowhere: NOTES of the same TIME never want the same TOOTH.
             PinBarrel box = Boxes.withTeeth(20, 21);
-            int tune = Boxes.tune(box, 6, 21, 6, 20, 3, 21, 3, 20, 0, 21, 0, 20);
-            check.due("those at 3 are too near", box.pin(tune, 0, 0), 2);
-            check.due("the first one and the last one", box.pins(0, 0), 1L | 1L << 6);
-            check.due("of the other pitch too", box.pins(1, 0), 1L | 1L << 6);
-            check.due("times, each once", box.ofTune(tune, 3), 3);
+            int tune = Boxes.tune(box, 3, 21, 8, 20, 3, 20, 8, 21, 0, 21, 5, 21, 0, 20, 5, 20);
+            check.due("those at 3 and 8 are too near", box.pin(tune, 0, 0), 4);
+            check.due("those at 0 and 5", box.pins(0, 0), 1L | 1L << 5);
+            check.due("of the other pitch too", box.pins(1, 0), 1L | 1L << 5);
+            check.due("times, each once", box.ofTune(tune, 3), 4);
         });
     }
 
@@ -213,6 +215,10 @@ final class CombEdges {
             check.due("the first", box.note(0, 0, 0), 2);
             check.due("the last", box.note(0, 63, 47), 1);
             check.due("that between stays", box.likeness(1, 0, 0), 1.0);
+            box.note(0, 10, 19);
+            box.note(0, 10, 21);
+            check.due("one of three at the same time", box.note(0, 10, 20), 2);
+            check.due("it is not there", box.likeness(1, 0, 0), 0.0);
         });
         edges.edge(NOTE, "Returns how many NOTES there are then.", () -> {
             PinBarrel box = new PinBarrel();

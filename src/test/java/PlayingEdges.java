@@ -129,6 +129,14 @@ final class PlayingEdges {
             box.play(1);
             check.due("plucked", box.wear(0, 0, 1), 1);
             check.due("another pin", box.wear(0, 0, 40), 0);
+            PinBarrel two = Boxes.withTeeth(20, 21);
+            two.pin(Boxes.tune(two, 5, 20, 4, 21), 0, 0);
+            two.pin(0, 1, 0);
+            two.wind(500);
+            two.play(4);
+            check.due("that of the other tooth", two.wear(1, 0, 4), 1);
+            check.due("not that at the next place", two.wear(0, 0, 5), 0);
+            check.due("not that of another line", two.wear(1, 1, 4), 0);
             PinBarrel broken = Boxes.broken();
             int plucked = broken.ofTooth(0, 3);
             check.due("a broken one is not heard", broken.play(64), 0);
@@ -299,12 +307,14 @@ final class PlayingEdges {
             check.due("of a whole one", whole.ofTooth(0, 2), 0);
         });
         edges.edge(TERMS, "and all PINS with a WEAR of 3 or more have a WEAR of 0;", () -> {
-            PinBarrel box = Boxes.worn();
-            check.due("wears", Boxes.wears(box), "4 3 2");
-            box.shift(2);
-            box.mend();
-            check.due("wears of lines not under teeth", Boxes.wears(box), "0 0 2");
-            check.due("the pins stay", box.many(3), 3);
+            for (int place : new int[] {0, 10, 63}) {
+                PinBarrel box = Boxes.worn(place);
+                check.due("wears", Boxes.wears(box, place), "4 3 2");
+                box.shift(2);
+                check.due("two of three", box.mend(), 2);
+                check.due("wears of lines not under teeth", Boxes.wears(box, place), "0 0 2");
+                check.due("the pins stay", box.many(3), 3);
+            }
         });
         edges.edge(TERMS, "how many of both.", () -> {
             PinBarrel box = Boxes.wound(Boxes.pinned(1, 5, 9), 2000);
@@ -399,7 +409,7 @@ final class PlayingEdges {
             PinBarrel box = Boxes.broken();
             check.due("the tooth, no pin", box.mend(), 1);
             check.due("nothing more", box.mend(), 0);
-            PinBarrel worn = Boxes.worn();
+            PinBarrel worn = Boxes.worn(10);
             check.due("two pins, no tooth", worn.mend(), 2);
             check.due("nothing more", worn.mend(), 0);
         });

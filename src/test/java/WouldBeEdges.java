@@ -52,6 +52,10 @@ final class WouldBeEdges {
             int tune = Boxes.tune(box, 0, 20);
             check.due("a pin of before bars", box.bestKey(tune, 0), 2);
             check.due("not in another line", box.bestKey(tune, 2), 0);
+            check.due("nor when it is asked again", box.bestKey(tune, 2), 0);
+            box.pin(tune, 2, 0);
+            check.due("there it does now", box.bestKey(tune, 2), 2);
+            check.due("not in a third one", box.bestKey(tune, 1), 0);
             PinBarrel broken = Boxes.broken();
             broken.tooth(15);
             check.due("a broken tooth gets none", broken.bestKey(Boxes.tune(broken, 40, 20), 2), -5);
@@ -106,7 +110,7 @@ final class WouldBeEdges {
         edges.edge(LASTS, "with PINS that go", () -> {
             PinBarrel box = Boxes.wound(Boxes.pinned(1), 2000);
             check.due("five plucks, not sixteen", box.lasts(), 998);
-            PinBarrel worn = Boxes.worn();
+            PinBarrel worn = Boxes.worn(10);
             int wound = worn.many(6);
             check.due("1, 2 and 3 plucks more", worn.lasts(), (wound - 6 + 1) / 2);
         });
