@@ -25,21 +25,21 @@ public final class PinBarrel {
     private static final long DIGEST_START = 58312L;
 
     private final Tunes tunes;
+    private final Works works;
     private final Comb comb;
     private final Barrel barrel;
     private final Sounds sounds;
-    private final Works works;
     /** What would be is played and pinned on these works, so that no call makes new ones. */
     private final Works trial;
     private int knocks;
 
     public PinBarrel() {
         tunes = new Tunes();
-        comb = new Comb();
-        barrel = new Barrel();
-        sounds = new Sounds();
-        works = new Works(comb, barrel, sounds);
-        trial = new Works(new Comb(), new Barrel(), new Sounds());
+        works = new Works();
+        comb = works.comb;
+        barrel = works.barrel;
+        sounds = works.sounds;
+        trial = new Works();
     }
 
     // ---- comb and tunes
@@ -622,7 +622,7 @@ public final class PinBarrel {
         }
 
         static int pinAt(int tooth, int line, int place) {
-            return lineAt(tooth, line) * PLACES + place;
+            return (line * MOST_TEETH + tooth) * PLACES + place;
         }
 
         /** The PLACES that are less than 4 away, round. */
@@ -649,10 +649,6 @@ public final class PinBarrel {
             wears[pinAt(tooth, line, place)] = 0;
         }
 
-        void dropPin(int tooth, int line, int place) {
-            places[lineAt(tooth, line)] &= ~(1L << place);
-        }
-
         int pinsOfTooth(int tooth) {
             int pins = 0;
             for (int line = 0; line < LINES; line++) {
@@ -668,7 +664,7 @@ public final class PinBarrel {
             int fewest = PLACES;
             for (int tooth = 0; tooth < comb.count; tooth++) {
                 if (comb.pitch[tooth] == pitch && !comb.broken[tooth]) {
-                    long taken = placesOf(tooth, line);
+                    long taken = places[lineAt(tooth, line)];
                     int pins = Long.bitCount(taken);
                     if ((taken & near) == 0L && pins < fewest) {
                         free = tooth;
@@ -684,7 +680,7 @@ public final class PinBarrel {
             int pulled = 0;
             for (int place = 0; place < PLACES; place++) {
                 if (hasPin(tooth, line, place) && wearOf(tooth, line, place) >= leastWear) {
-                    dropPin(tooth, line, place);
+                    places[lineAt(tooth, line)] &= ~(1L << place);
                     pulled++;
                 }
             }
@@ -710,7 +706,7 @@ public final class PinBarrel {
             if (wears[pin] < WORN_OUT) {
                 return false;
             }
-            dropPin(tooth, line, place);
+            places[lineAt(tooth, line)] &= ~(1L << place);
             return true;
         }
 
@@ -777,10 +773,10 @@ public final class PinBarrel {
         int wornOut;
         double clock;
 
-        Works(Comb itsComb, Barrel itsBarrel, Sounds itsSounds) {
-            comb = itsComb;
-            barrel = itsBarrel;
-            sounds = itsSounds;
+        Works() {
+            comb = new Comb();
+            barrel = new Barrel();
+            sounds = new Sounds();
             governor = FIRST_GOVERNOR;
         }
 

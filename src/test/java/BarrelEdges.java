@@ -20,6 +20,7 @@ final class BarrelEdges {
         choice();
         pinsByThen();
         wear();
+        wearOfEach();
         pin();
         pull();
         shift();
@@ -206,6 +207,50 @@ final class BarrelEdges {
             box.pin(tune, 0, 0);
             check.due("a new pin at a place of one that is gone", box.wear(0, 0, 1), 0);
         });
+    }
+
+    private void wearOfEach() {
+        edges.edge(TERMS, "A PIN has a WEAR", () -> {
+            PinBarrel box = Boxes.wound(new PinBarrel(), 2000);
+            for (int tooth = 0; tooth < 24; tooth++) {
+                box.tooth(tooth);
+            }
+            box.tune();
+            for (int line = 0; line < 3; line++) {
+                wearInto(box, line);
+            }
+            for (int tooth = 0; tooth < 24; tooth++) {
+                for (int line = 0; line < 3; line++) {
+                    check.due("of tooth " + tooth + " in line " + line, box.wear(tooth, line, 1), wearDue(tooth, line));
+                }
+            }
+        });
+    }
+
+    /** Another one for each LINE of a TOOTH, and for the LINES of those beside it. */
+    private static int wearDue(int tooth, int line) {
+        return (2 * tooth + 3 * line) % 5;
+    }
+
+    /** Pins at the PLACE 1 first what is to be plucked four times, then three times, and so on, a round for each. */
+    private void wearInto(PinBarrel box, int line) {
+        box.shift(line);
+        for (int wear = 4; wear >= 0; wear--) {
+            for (int tooth = 0; tooth < 24; tooth++) {
+                if (wearDue(tooth, line) == wear) {
+                    box.note(0, 1, tooth);
+                }
+            }
+            check.due("none is lost", box.pin(0, line, 0), 0);
+            if (wear > 0) {
+                box.play(64);
+            }
+            for (int tooth = 0; tooth < 24; tooth++) {
+                if (wearDue(tooth, line) == wear) {
+                    box.note(0, 1, tooth);
+                }
+            }
+        }
     }
 
     private void pin() {
